@@ -195,16 +195,16 @@ public final class RankShelf {
         if (!isShelfPlace(r)) {
             return told(BEYOND);
         }
-        Version sealed = held[p];
+        Version source = held[p];
         if (narrow) {
-            sheet.layOut(sealed);
-            if (sheet.leastFrom(0, sealed.length, TOP_SHORT_VALUE + 1) != NONE) {
+            sheet.layOut(source);
+            if (sheet.leastFrom(0, source.length, TOP_SHORT_VALUE + 1) != NONE) {
                 return told(BEYOND);
             }
         }
-        held[r] = sealed;
+        held[r] = source;
         kinds[r] = narrow ? SHORT : SEALED;
-        return sealed.length;
+        return source.length;
     }
 
     public int put(int p, int r) {

@@ -150,6 +150,10 @@ public final class ShelfTest {
             Check.due("15 weight 1", x.weight(p, 1), 2147483647L);
             Check.due("15 weight 2", x.weight(p, 2), -1L);
         }
+        x.version(0, 3);
+        x.push(3, 9, 77, 3);
+        Check.due("15 of another row", x.weight(3, 0), 77);
+        Check.due("15 and of the first again", x.weight(0, 0), MIN);
         Check.due("15 i above", x.weight(0, 3), 0);
         Check.due("15 i below", x.weight(0, -1), 0);
         Check.due("15 p", x.weight(12, 0), 0);

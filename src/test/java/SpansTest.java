@@ -273,6 +273,11 @@ public final class SpansTest {
         x.version(3, 1);
         x.turn(1, 2, 3, 99);
         Check.due("29 another weight", x.first(2, 1), 2);
+        x.turn(1, 0, 8, 1);
+        Check.due("29 the first place's value", x.first(0, 1), 0);
+        x.version(3, 1);
+        x.turn(1, 0, 1, 2);
+        Check.due("29 the first place's weight", x.first(1, 0), 0);
         x.cut(0, 2, 3);
         Check.due("29 a place more", x.first(0, 3), 2);
         Check.due("29 a place less", x.first(3, 0), 2);
