@@ -86,9 +86,9 @@ public final class TermsEdgesTest {
     /** Terms: "an act that answers one changes nothing but what found() tells": BEYOND, of each act. */
     private static void beyondChangesNothing() {
         changesNothing(BEYOND, "push 0 1024 9 3", "push 0 9 9 12", "cut 0 4 3", "cut 0 1 12", "join 0 1 0 4 3",
-            "join 0 1 0 1 12", "turn 0 3 9 9", "turn 0 0 1024 9", "version 7 3", "version 0 12", "about 7 0", "about 0 5",
-            "common 7 0", "common 0 7", "seal 0 12 false", "seal 11 3 true", "seal 11 11 true", "put 0 12", "take 12",
-            "row 0 3", "at 0 3", "weight 0 3", "bit 1 10 0", "bit 1 0 3", "ones 1 10 0", "ones 1 0 4");
+            "join 0 1 0 1 12", "turn 0 3 9 9", "turn 0 0 1024 9", "version 7 3", "version 0 12", "about 7 0",
+            "about 0 5", "common 7 0", "common 0 7", "seal 0 12 false", "seal 11 3 true", "seal 11 11 true", "put 0 12",
+            "take 12", "row 0 3", "at 0 3", "weight 0 3", "bit 1 10 0", "bit 1 0 3", "ones 1 10 0", "ones 1 0 4");
         changesNothing(BEYOND, "kth 0 0 4 0", "rank 0 0 4 0", "between 0 0 4 0 9", "next 0 0 4 0", "prior 0 0 4 0",
             "median 0 0 4", "half 0 0 4", "often 0 0 4 0", "distinct 0 0 4", "sum 0 0 4 9", "differ 0 0 4 11 0",
             "differ 0 0 3 11 1", "first 0 12", "first 12 0", "found 0", "found -7");
