@@ -21,6 +21,15 @@ record Call(String name, int... x) {
         }
     }
 
+    /** The call as of() reads it, but for the words: each argument is a number. */
+    String text() {
+        StringBuilder text = new StringBuilder(name);
+        for (int argument : x) {
+            text.append(' ').append(argument);
+        }
+        return text.toString();
+    }
+
     /** weight() and sum() answer 0 where another call answers the finding. */
     long answerOf(int finding) {
         return name.equals("weight") || name.equals("sum") ? 0 : finding;

@@ -4,7 +4,9 @@ import java.lang.reflect.Method;
 import java.lang.reflect.Modifier;
 import java.nio.file.Files;
 import java.nio.file.Path;
+import java.util.ArrayList;
 import java.util.Arrays;
+import java.util.List;
 import java.util.Set;
 import java.util.TreeSet;
 import java.util.regex.Matcher;
@@ -23,13 +25,27 @@ public final class FaceTest {
         "int median(int,int,int)", "int half(int,int,int)", "int often(int,int,int,int)",
         "int distinct(int,int,int)", "long sum(int,int,int,int)", "int differ(int,int,int,int,int)",
         "int first(int,int)", "int step(int)", "int found(int)"};
+    /** The document: "Ahead of the calls .. the interface says: ----". */
+    private static final String[] HEADED = {"---- versions", "push", "cut", "join", "turn", "version", "about",
+        "common", "versions", "---- the shelf", "seal", "put", "take", "row", "at", "weight", "bit", "ones",
+        "---- what is asked of spans", "kth", "rank", "between", "next", "prior", "median", "half", "often",
+        "distinct", "sum", "differ", "first", "step", "found"};
+    private static final Set<String> LIBRARY = Set.of("Math.max", "Math.min", "Arrays.fill");
+    private static final int MOST_LINES = 60;
+    private static final int MOST_CLASSES = 12;
+    private static final int MOST_FIELDS = 20;
     private static final String[] RULED_OUT = {"throw", "throws", "try", "catch", "synchronized", "assert",
         "package", "->", "::", "System\\.(?!arraycopy)", "\\w+Exact", "equals", "hashCode", "toString"};
 
     public static void main(String[] args) throws Exception {
         face();
         inside();
-        words(Path.of(args.length > 0 ? args[0] : "."));
+        String text = Files.readString(Path.of(args.length > 0 ? args[0] : ".").resolve("src/main/java/RankShelf.java"));
+        String code = text.replaceAll("(?s)/\\*.*?\\*/", "").replaceAll("//[^\n]*", "");
+        headings(text);
+        words(code);
+        library(code);
+        lengths(code);
         Check.end();
     }
 
@@ -81,17 +97,54 @@ public final class FaceTest {
         }
     }
 
-    private static void words(Path root) throws Exception {
-        String text = Files.readString(root.resolve("src/main/java/RankShelf.java"));
-        String code = text.replaceAll("(?s)/\\*.*?\\*/", "").replaceAll("//[^\n]*", "");
+    /** What the public calls are headed by, and their order; headings of private methods come behind them. */
+    private static void headings(String text) {
+        List<String> seen = new ArrayList<>();
+        Matcher m = Pattern.compile("(?m)^ {4}(?:// (---- .*)|public (?:int|long) (\\w+)\\(.*)$").matcher(text);
+        while (m.find() && seen.size() < HEADED.length) {
+            seen.add(m.group(1) != null ? m.group(1) : m.group(2));
+        }
+        Check.due("the calls and their headings are " + seen, seen.equals(Arrays.asList(HEADED)) ? 1 : 0, 1);
+    }
+
+    private static void words(String code) {
         for (String word : RULED_OUT) {
             String pattern = Character.isLetter(word.charAt(0)) ? "\\b" + word : word;
             Matcher m = Pattern.compile(word.matches("\\w+") ? pattern + "\\b" : pattern).matcher(code);
             Check.due("ruled out: " + word, m.find() ? 1 : 0, 0);
         }
+    }
+
+    private static void library(String code) {
         Matcher imports = Pattern.compile("import\\s+([\\w.]+)").matcher(code);
         while (imports.find()) {
             Check.due("imports " + imports.group(1), imports.group(1).equals("java.util.Arrays") ? 1 : 0, 1);
         }
+        Matcher used = Pattern.compile("\\b([A-Z][a-z]\\w*\\.\\w+)\\(").matcher(code);
+        while (used.find()) {
+            Check.due("uses " + used.group(1), LIBRARY.contains(used.group(1)) ? 1 : 0, 1);
+        }
+    }
+
+    /** Rule 11: methods of some sixty lines, some twelve classes, some twenty fields of each. */
+    private static void lengths(String code) {
+        Matcher m = Pattern.compile("(?ms)^( {4}| {8})(?:public|private) [^;={]*\\) \\{$(.*?)^\\1\\}$").matcher(code);
+        int methods = 0;
+        while (m.find()) {
+            methods++;
+            Check.due("lines of a method are few: " + m.group(), m.group().lines().count() > MOST_LINES ? 1 : 0, 0);
+        }
+        Check.due("methods that were looked at are those of the face at least", Math.min(methods, FACE.length), FACE.length);
+        Class<?>[] inside = RankShelf.class.getDeclaredClasses();
+        Check.due("classes are few", inside.length + 1 > MOST_CLASSES ? 1 : 0, 0);
+        fields(RankShelf.class);
+        for (Class<?> c : inside) {
+            fields(c);
+        }
+    }
+
+    private static void fields(Class<?> c) {
+        long count = Arrays.stream(c.getDeclaredFields()).filter(f -> !Modifier.isStatic(f.getModifiers())).count();
+        Check.due("fields are few: " + c, count > MOST_FIELDS ? 1 : 0, 0);
     }
 }

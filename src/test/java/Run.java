@@ -47,21 +47,43 @@ final class Run {
     /** The call answers this finding, counts it, and changes nothing else. */
     Run refused(String text, int finding) {
         Call call = Call.of(text);
-        changesNothing(text, call, finding);
+        compareTwins(text, call, finding);
         Check.due(name + ": " + text, ask(call), call.answerOf(finding));
         return this;
     }
 
-    private void changesNothing(String text, Call call, int finding) {
+    /**
+     * The call answers this, and only these questions may be answered otherwise behind it: "about 3 2"
+     * is one question, "row 3" all those that begin so. None is named where nothing may change.
+     */
+    Run changes(String text, long answer, String... questions) {
+        Call call = Call.of(text);
+        compareTwins(text, call, 0, questions);
+        Check.due(name + ": " + text, ask(call), answer);
+        return this;
+    }
+
+    private void compareTwins(String text, Call call, int finding, String... changed) {
         List<Call> questions = questions();
         long[] without = answers(questions, null);
         long[] with = answers(questions, call);
         for (int i = 0; i < with.length; i++) {
             Call question = questions.get(i);
             boolean counted = question.name().equals("found") && question.x()[0] == finding;
-            String what = name + ": behind " + text + ", " + question.name() + Arrays.toString(question.x());
-            Check.due(what, with[i], without[i] + (counted ? 1 : 0));
+            if (!isOneOf(question, changed)) {
+                String what = name + ": behind " + text + ", " + question.text();
+                Check.due(what, with[i], without[i] + (counted ? 1 : 0));
+            }
         }
+    }
+
+    private static boolean isOneOf(Call question, String... changed) {
+        return Arrays.stream(changed).anyMatch(some -> (question.text() + " ").startsWith(some + " "));
+    }
+
+    /** A new object that has had all calls of the run. */
+    RankShelf twin() {
+        return twin(null);
     }
 
     private RankShelf twin(Call last) {
