@@ -40,7 +40,8 @@ public final class FaceTest {
     public static void main(String[] args) throws Exception {
         face();
         inside();
-        String text = Files.readString(Path.of(args.length > 0 ? args[0] : ".").resolve("src/main/java/RankShelf.java"));
+        Path root = Path.of(args.length > 0 ? args[0] : ".");
+        String text = Files.readString(root.resolve("src/main/java/RankShelf.java"));
         String code = text.replaceAll("(?s)/\\*.*?\\*/", "").replaceAll("//[^\n]*", "");
         headings(text);
         words(code);
@@ -134,7 +135,7 @@ public final class FaceTest {
             methods++;
             Check.due("lines of a method are few: " + m.group(), m.group().lines().count() > MOST_LINES ? 1 : 0, 0);
         }
-        Check.due("methods that were looked at are those of the face at least", Math.min(methods, FACE.length), FACE.length);
+        Check.due("methods of the face that were looked at", Math.min(methods, FACE.length), FACE.length);
         Class<?>[] inside = RankShelf.class.getDeclaredClasses();
         Check.due("classes are few", inside.length + 1 > MOST_CLASSES ? 1 : 0, 0);
         fields(RankShelf.class);

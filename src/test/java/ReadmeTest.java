@@ -1,9 +1,10 @@
+import java.lang.reflect.Method;
 import java.nio.file.Files;
 import java.nio.file.Path;
 import java.util.regex.Matcher;
 import java.util.regex.Pattern;
 
-/** README.md's example answers what README.md says, and README.md has every call, limit and test. */
+/** README.md's example answers what README.md says, and README.md tells of every call and every test. */
 public final class ReadmeTest {
     private static final int EXAMPLE_CALLS = 12;
 
@@ -27,7 +28,7 @@ public final class ReadmeTest {
     }
 
     private static void everyCall(String text) {
-        for (java.lang.reflect.Method m : RankShelf.class.getMethods()) {
+        for (Method m : RankShelf.class.getMethods()) {
             if (m.getDeclaringClass() == RankShelf.class) {
                 Check.due("README.md tells of " + m.getName(), text.contains("`" + m.getName() + "(") ? 1 : 0, 1);
             }
